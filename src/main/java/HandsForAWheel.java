@@ -79,6 +79,7 @@ public final class HandsForAWheel {
     private final SoonestWay soonestWay = new SoonestWay();
     private final LanesWay lanesWay = new LanesWay();
 
+    /** Ten plain yards, nobody. */
     public HandsForAWheel() {
     }
 
@@ -105,10 +106,7 @@ public final class HandsForAWheel {
     }
 
     public int ground(int lane, int yard, int what) {
-        int bad = firstOf(noGround(lane, yard), false, false);
-        if (bad == 0 && isOther(what, 1)) {
-            bad = OTHER;
-        }
+        int bad = orOther(noGround(lane, yard) ? NOBODY : 0, what, 1);
         if (bad != 0) {
             return refuse(bad);
         }
@@ -116,7 +114,10 @@ public final class HandsForAWheel {
     }
 
     public int yard(int lane, int yard, int kind, int figure) {
-        int bad = noGround(lane, yard) ? NOBODY : isOther(kind, BUMPS) ? OTHER : firstOf(false, figure < 0, figure > MOST_FIGURE);
+        int bad = orOther(noGround(lane, yard) ? NOBODY : 0, kind, BUMPS);
+        if (bad == 0) {
+            bad = firstOf(false, figure < 0, figure > MOST_FIGURE);
+        }
         if (bad != 0) {
             return refuse(bad);
         }
@@ -127,7 +128,7 @@ public final class HandsForAWheel {
     }
 
     public int one(int person, int what) {
-        int bad = nobody(person) ? NOBODY : isOther(what, HANDS) ? OTHER : 0;
+        int bad = orOther(nobody(person) ? NOBODY : 0, what, HANDS);
         if (bad != 0) {
             return refuse(bad);
         }
@@ -135,7 +136,10 @@ public final class HandsForAWheel {
     }
 
     public int person(int person, int what, int v) {
-        int bad = nobody(person) ? NOBODY : isOther(what, HANDS) ? OTHER : firstOf(false, v < 1, v > Field.mostOf(what));
+        int bad = orOther(nobody(person) ? NOBODY : 0, what, HANDS);
+        if (bad == 0) {
+            bad = firstOf(false, v < 1, v > Field.mostOf(what));
+        }
         if (bad != 0) {
             return refuse(bad);
         }
@@ -186,10 +190,7 @@ public final class HandsForAWheel {
     }
 
     public int feels(int yard, int walks, int hold, int pace, int what) {
-        int bad = firstOf(noYard(yard) || nobody(walks), low(hold, pace), high(hold, pace));
-        if (bad == 0 && isOther(what, 2)) {
-            bad = OTHER;
-        }
+        int bad = orOther(firstOf(noYard(yard) || nobody(walks), low(hold, pace), high(hold, pace)), what, 2);
         if (bad != 0) {
             return refuse(bad);
         }
@@ -208,10 +209,7 @@ public final class HandsForAWheel {
     // ---- A race of two
 
     public int race(int holds, int walks, int hold, int pace, int what) {
-        int bad = badTwo(holds, walks, hold, pace);
-        if (bad == 0 && isOther(what, 3)) {
-            bad = OTHER;
-        }
+        int bad = orOther(badTwo(holds, walks, hold, pace), what, 3);
         if (bad != 0) {
             return refuse(bad);
         }
@@ -321,10 +319,7 @@ public final class HandsForAWheel {
     // ---- The soonest ways
 
     public int soonest(int walks, int hold, int yard, int what) {
-        int bad = firstOf(nobody(walks) || noYardNorAll(yard), low(hold, 1), high(hold, 1));
-        if (bad == 0 && isOther(what, 1)) {
-            bad = OTHER;
-        }
+        int bad = orOther(firstOf(nobody(walks) || noYardNorAll(yard), low(hold, 1), high(hold, 1)), what, 1);
         if (bad != 0) {
             return refuse(bad);
         }
@@ -350,10 +345,7 @@ public final class HandsForAWheel {
     }
 
     public int even(int walks, int hold, int what) {
-        int bad = firstOf(nobody(walks), low(hold, 1), high(hold, 1));
-        if (bad == 0 && isOther(what, 1)) {
-            bad = OTHER;
-        }
+        int bad = orOther(firstOf(nobody(walks), low(hold, 1), high(hold, 1)), what, 1);
         if (bad != 0) {
             return refuse(bad);
         }
@@ -382,10 +374,7 @@ public final class HandsForAWheel {
     }
 
     public int pairs(int hold, int pace, int what) {
-        int bad = firstOf(false, low(hold, pace), high(hold, pace));
-        if (bad == 0 && isOther(what, 2)) {
-            bad = OTHER;
-        }
+        int bad = orOther(firstOf(false, low(hold, pace), high(hold, pace)), what, 2);
         if (bad == 0 && (now.howMany < 2 || now.howMany % 2 != 0)) {
             bad = STATE;
         }
@@ -502,10 +491,7 @@ public final class HandsForAWheel {
     // ---- Steering, a cup, laughing
 
     public int steers(int g, int what) {
-        int bad = firstOf(false, g < 0, g > 5);
-        if (bad == 0 && isOther(what, 1)) {
-            bad = OTHER;
-        }
+        int bad = orOther(firstOf(false, g < 0, g > 5), what, 1);
         if (bad != 0) {
             return FAR_OFF - refuse(bad);
         }
@@ -803,10 +789,7 @@ public final class HandsForAWheel {
     }
 
     public int lots(int walks, int hold, int pace, int n, int z, int what) {
-        int bad = firstOf(nobody(walks), low(hold, pace) || n < 1, high(hold, pace) || n > 20);
-        if (bad == 0 && isOther(what, 1)) {
-            bad = OTHER;
-        }
+        int bad = orOther(firstOf(nobody(walks), low(hold, pace) || n < 1, high(hold, pace) || n > 20), what, 1);
         if (bad != 0) {
             return refuse(bad);
         }
@@ -875,6 +858,10 @@ public final class HandsForAWheel {
     /** The first refusal that fits, in the order -1, -4, -6; 0 if none does. */
     private static int firstOf(boolean noSuch, boolean below, boolean above) {
         return noSuch ? NOBODY : below ? BELOW : above ? ROOM : 0;
+    }
+
+    private static int orOther(int bad, int what, int most) {
+        return bad == 0 && isOther(what, most) ? OTHER : bad;
     }
 
     private static boolean isOther(int what, int most) {
@@ -1547,7 +1534,9 @@ public final class HandsForAWheel {
         }
 
         void goes(Course course, int yard, int hold, int pace) {
-            int tires = tires(course, yard, hold, pace);
+            int kind = course.kinds.get(yard);
+            int figure = course.figures.get(yard);
+            int tires = Ground.loadOn(kind, figure, heavy, hold) + pace;
             if (never || arms < tires) {
                 never = true;
                 return;
@@ -1558,8 +1547,8 @@ public final class HandsForAWheel {
                 left = Math.min(left + 10, arms);
             }
             left -= tires;
-            tenths += Ground.tenthsOf(course.kinds.get(yard), course.figures.get(yard), hold, pace);
-            if (pace > Ground.limitOn(course.kinds.get(yard), hands)) {
+            tenths += Ground.tenthsOf(kind, figure, hold, pace);
+            if (pace > Ground.limitOn(kind, hands)) {
                 noses++;
                 tenths += NOSE_TENTHS;
                 left = Math.min(left + 5, arms);
@@ -1580,8 +1569,10 @@ public final class HandsForAWheel {
 
     /** SOONEST: from the last yard back, for each LEFT ahead of a yard, the fewest TENTHS from there on. */
     private static final class SoonestWay {
+        /** Of the yard that was gone to last. */
         int pace = 1;
         int rests = 0;
+
         private final Cells fewest = new Cells(MOST_YARDS * LEFTS);
 
         private static int placeOf(int yard, int left) {
@@ -1590,7 +1581,7 @@ public final class HandsForAWheel {
 
         int searches(Course course, Walk walk, int hold) {
             for (int yard = course.yards - 1; yard >= 0; yard--) {
-                // Downward, since a RESTED one's TENTHS are wanted here.
+                // Downward, since the TENTHS of one who has rested are wanted for one who has not.
                 for (int left = walk.arms; left >= 0; left--) {
                     int time = Math.min(goingAt(course, walk, yard, left, hold), resting(walk, yard, left));
                     fewest.put(placeOf(yard, left), Math.min(time, NEVER));
@@ -1604,7 +1595,7 @@ public final class HandsForAWheel {
             int left = walk.arms;
             for (int at = 0; at <= yard; at++) {
                 rests = 0;
-                for (int i = 0; i < MOST_RESTS && goingAt(course, walk, at, left, hold) > fewest.get(placeOf(at, left)); i++) {
+                for (int i = 0; i < MOST_RESTS && fewest.get(placeOf(at, left)) < goingAt(course, walk, at, left, hold); i++) {
                     rests++;
                     left = Math.min(left + 10, walk.arms);
                 }
@@ -1630,7 +1621,7 @@ public final class HandsForAWheel {
         }
 
         private int leastPaceAt(Course course, Walk walk, int yard, int left, int hold) {
-            int best = goingAt(course, walk, yard, left, hold);
+            int best = fewest.get(placeOf(yard, left));
             for (int p = 1; p < MOST_PACE; p++) {
                 if (timeWith(course, walk, yard, left, hold, p) == best) {
                     return p;
