@@ -1367,6 +1367,7 @@ public final class HandsForAWheel {
                 return -1000 - place;
             }
             int statements = 0;
+            // Each step is longer than 0: behind a letter that begins nothing there are -1 digits.
             for (int from = 0; from < fed; from += digitsBehind(letters.get(from)) + 2) {
                 if (!comesInto(field, from)) {
                     return -2000 - from;

@@ -208,6 +208,27 @@ public final class FieldTest {
         DUE.is("its kind", x.ground(0, 3, 0), 0);
         DUE.is("its figure", x.ground(0, 3, 1), 0);
         DUE.is("none", x.back(), -3);
+        x.person(0, 0, 11);
+        x.lane(1);
+        x.person(0, 2, 8);
+        x.yard(1, 9, 5, 9);
+        x.yard(0, 0, 3, 3);
+        x.person(0, 1, 7);
+        x.lane(0);
+        x.yard(1, 9, 4, 2);
+        x.person(0, 0, 12);
+        x.person(0, 2, 9);
+        for (int left = 7; left >= 0; left--) {
+            DUE.is("back of many sorts", x.back(), left);
+        }
+        DUE.is("the second was too old", x.count(2), 1);
+        DUE.is("the first, too", x.one(0, 0), 11);
+        DUE.is("hands", x.one(0, 2), 5);
+        DUE.is("heavy", x.one(0, 1), 4);
+        DUE.is("kinds", 10 * x.ground(1, 9, 0) + x.ground(0, 0, 0), 0);
+        DUE.is("figures", 10 * x.ground(1, 9, 1) + x.ground(0, 0, 1), 0);
+        x.lane(0);
+        x.person(0, 0, 20);
         for (int arms = 21; arms <= 30; arms++) {
             x.person(0, 0, arms);
         }

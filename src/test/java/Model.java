@@ -310,6 +310,69 @@ final class Model {
         }
     }
 
+    /** As soonest(), for many yards: what is the best from a yard on with so much LEFT is tried once only. */
+    int[] soonestFar(int walks, int hold) {
+        Integer[][] known = new Integer[yards][61];
+        int[] p = people.get(walks);
+        int best = from(0, p[0], p, hold, known);
+        if (best == NEVER) {
+            return null;
+        }
+        int[] answer = new int[1 + 2 * yards];
+        answer[0] = best;
+        int left = p[0];
+        for (int y = 0; y < yards; y++) {
+            int want = from(y, left, p, hold, known);
+            boolean found = false;
+            for (int rests = 0; rests <= 6 && !found; rests++) {
+                for (int pace = 1; pace <= 9 && !found; pace++) {
+                    int[] after = after(y, left, rests, pace, p, hold);
+                    int rest = after == null ? NEVER : from(y + 1, after[1], p, hold, known);
+                    if (rest != NEVER && after[0] + rest == want) {
+                        answer[1 + 2 * y] = rests;
+                        answer[2 + 2 * y] = pace;
+                        left = after[1];
+                        found = true;
+                    }
+                }
+            }
+        }
+        return answer;
+    }
+
+    private int from(int yard, int left, int[] p, int hold, Integer[][] known) {
+        if (yard == yards) {
+            return 0;
+        }
+        if (known[yard][left] == null) {
+            int best = NEVER;
+            for (int rests = 0; rests <= 6; rests++) {
+                for (int pace = 1; pace <= 9; pace++) {
+                    int[] after = after(yard, left, rests, pace, p, hold);
+                    int rest = after == null ? NEVER : from(yard + 1, after[1], p, hold, known);
+                    if (rest != NEVER && sooner(after[0] + rest, best)) {
+                        best = after[0] + rest;
+                    }
+                }
+            }
+            known[yard][left] = best;
+        }
+        return known[yard][left];
+    }
+
+    /** TENTHS and LEFT behind one yard; null if what is LEFT is too little. */
+    private int[] after(int yard, int left, int rests, int pace, int[] p, int hold) {
+        int k = kind[lane][yard];
+        int f = figure[lane][yard];
+        int rested = Math.min(p[0], left + 10 * rests) - load(k, f, p[1], hold) - pace;
+        if (rested < 0) {
+            return null;
+        }
+        boolean nose = pace > limit(k, p[2]);
+        int time = 15 * rests + tenths(k, f, hold, pace) + (nose ? 40 : 0);
+        return new int[] {time, nose ? Math.min(p[0], rested + 5) : rested};
+    }
+
     /** TENTHS, then the lanes; null NEVER. All ways, staying first. */
     int[] lanes(int walks, int hold, int pace) {
         int[] best = null;

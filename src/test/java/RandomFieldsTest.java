@@ -13,8 +13,10 @@ public final class RandomFieldsTest {
         }
         for (int seed = 0; seed < 40; seed++) {
             Random r = new Random(1000 + seed);
-            findsWays(seed, r, Model.random(r, 3, 1), true);
-            findsWays(seed, r, Model.random(r, 9, 1), false);
+            findsSoonest(seed, r, Model.random(r, 3, 1), true);
+            findsSoonest(seed, r, Model.random(r, 20, 1), false);
+            findsSoonest(seed, r, Model.random(r, 20, 1), false);
+            findsLanes(seed, r, Model.random(r, 9, 1));
         }
         DUE.end();
     }
@@ -156,23 +158,25 @@ public final class RandomFieldsTest {
         DUE.is(at + "bestCup", x.bestCup(pace), best);
     }
 
-    private static void findsWays(int seed, Random r, Model m, boolean soonest) {
+    private static void findsLanes(int seed, Random r, Model m) {
         HandsForAWheel x = m.object();
         int hold = r.nextInt(3);
         int pace = 1 + r.nextInt(9);
-        String at = "ways " + seed + " ";
-        if (!soonest) {
-            int[] lanes = m.lanes(0, hold, pace);
-            for (int y = -1; y < m.yards; y++) {
-                DUE.is(at + "lanes " + y, x.lanes(0, hold, pace, y), lanes == null ? -9 : lanes[y + 1]);
-            }
-            return;
+        int[] lanes = m.lanes(0, hold, pace);
+        for (int y = -1; y < m.yards; y++) {
+            DUE.is("lanes " + seed + " " + y, x.lanes(0, hold, pace, y), lanes == null ? -9 : lanes[y + 1]);
         }
-        int[] way = m.soonest(0, hold);
-        DUE.is(at + "soonest", x.soonest(0, hold, -1, 0), way == null ? -9 : way[0]);
+    }
+
+    private static void findsSoonest(int seed, Random r, Model m, boolean all) {
+        HandsForAWheel x = m.object();
+        int hold = r.nextInt(3);
+        String at = "soonest " + seed + " ";
+        int[] way = all ? m.soonest(0, hold) : m.soonestFar(0, hold);
+        DUE.is(at, x.soonest(0, hold, -1, 0), way == null ? -9 : way[0]);
         for (int y = 0; y < m.yards; y++) {
-            DUE.is(at + "soonest pace " + y, x.soonest(0, hold, y, 0), way == null ? -9 : way[2 + 2 * y]);
-            DUE.is(at + "soonest rests " + y, x.soonest(0, hold, y, 1), way == null ? -9 : way[1 + 2 * y]);
+            DUE.is(at + "pace " + y, x.soonest(0, hold, y, 0), way == null ? -9 : way[2 + 2 * y]);
+            DUE.is(at + "rests " + y, x.soonest(0, hold, y, 1), way == null ? -9 : way[1 + 2 * y]);
         }
         int best = m.bestPace(0, hold);
         int sooner = best == -9 ? -9 : m.race(0, hold, best).tenths - way[0];
