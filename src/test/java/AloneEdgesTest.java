@@ -527,6 +527,25 @@ public final class AloneEdgesTest {
             practice 3 0 1 = 0
             race 0 3 0 1 2 = 1
             """);
+        // HEAVY 2 can be 1 less; with HANDS 8 she falls on her nose with PACE 9 still.
+        DUE.all(Due.of("n20;p6029;p6017;"), """
+            race 1 0 0 1 2 = 4
+            practice 0 0 1 = 1
+            yards 1 = 20
+            practice 0 0 1 = -9
+            practice 1 0 9 = -9
+            practice 1 0 8 = 2
+            """);
+        // 307 TENTHS now, 277 with HEAVY 8, 282 with HANDS 6.
+        DUE.all(Due.of("n05;p6095;p6011;y00257;y00325;"), """
+            race 1 0 0 5 0 = 307
+            practice 0 0 5 = 1
+            person 0 2 6 = 5
+            race 1 0 0 5 0 = 282
+            person 0 2 5 = 6
+            person 0 1 8 = 9
+            race 1 0 0 5 0 = 277
+            """);
     }
 
     private static void half() {

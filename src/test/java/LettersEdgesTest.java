@@ -32,16 +32,19 @@ public final class LettersEdgesTest {
         DUE.is("96 letters", x.count(4), 96);
         DUE.is("32 STATEMENTS in 96 letters", x.field(), 32);
         DUE.is("none more", x.count(4), 0);
-        DUE.is("16 of 6 letters, one too many", Due.field(x, "p1011;".repeat(16)), -2036);
-        DUE.is("the end is place 96", Due.field(x, "n20;".repeat(23) + "y000"), -1096);
-        DUE.is("the last of 96", Due.field(x, "n20;".repeat(23) + "n20:"), -1095);
-        DUE.is("the last STATEMENT", Due.field(x, "n20;".repeat(23) + "n21;"), -2092);
-        DUE.is("the first of 96", Due.field(x, "x" + ";".repeat(95)), -1000);
-        DUE.is("nobody came", x.count(0), 0);
-        DUE.is("nor more YARDS", x.count(1), 10);
         DUE.is("a FAULT is no REFUSAL", x.count(11) + x.count(12) + x.count(13), 0);
         DUE.is("but for the letter below", x.count(14), 1);
         DUE.is("and those above or too many", x.count(16), 2);
+        String[] texts = {"p1011;".repeat(16), "n20;".repeat(23) + "y000", "n20;".repeat(23) + "n20:", "n20;".repeat(23) + "n21;",
+            "x" + ";".repeat(95)};
+        int[] due = {-2036, -1096, -1095, -2092, -1000};
+        for (int i = 0; i < texts.length; i++) {
+            x = new HandsForAWheel();
+            DUE.is("96 letters", Due.feed(x, texts[i]), 96);
+            DUE.is("field " + texts[i], x.field(), due[i]);
+            DUE.is("nobody came, nor more YARDS", 100 * x.count(0) + x.count(1), 10);
+            DUE.is("no letters then", x.count(4), 0);
+        }
     }
 
     private static void anyLetter() {

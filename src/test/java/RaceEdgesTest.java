@@ -392,6 +392,16 @@ public final class RaceEdgesTest {
             lanes 0 0 1 0 = 1
             lanes 0 0 1 3 = 1
             """);
+        // With all her ARMS she stays, with what is LEFT behind a YARD she would want a REST.
+        DUE.all(Due.of("n02;p0619;y00023;y00123;n01;"), """
+            lanes 0 0 1 -1 = 30
+            lanes 0 0 1 0 = 0
+            yard 0 0 0 0 = 23
+            yards 2 = 1
+            lanes 0 0 1 -1 = 60
+            lanes 0 0 1 0 = 0
+            lanes 0 0 1 1 = 1
+            """);
         // There and back takes 12: as long as THISTLES with 9 more, less long than BUMPS with 9.
         DUE.all(Due.of("n03;p6019;y00149;y10059;y10259;"), """
             lanes 0 0 1 -1 = 93
