@@ -14,42 +14,50 @@ public final class AskingTest {
         "ladder 1 2 3", "careful 0 1", "practice 1 0 3", "half 2 1 2", "turnedRound 0 1 2", "bestLane 1 1 2", "rain 1 2 1",
         "relay 0 1 1 5", "longest 3 1 2 150", "fair 1 2", "lots 0 1 2 5 99 0", "lots 3 0 4 2 -1 1", "count 3"};
 
-    private static final String[] CHANGES = {"yards 9", "yard 0 2 5 3", "yard 0 6 1 5", "yard 1 1 2 7", "yard 1 8 4 4",
+    private static final String[] CHANGES = {"yard 0 2 5 3", "yard 0 6 1 5", "yard 1 1 2 7", "yard 1 8 4 4",
         "person 0 0 31", "person 1 1 2", "person 2 2 1", "person 3 0 22", "lane 0"};
 
     public static void main(String[] args) {
-        int changed = 0;
-        for (String after : ASKS) {
-            HandsForAWheel plain = made();
-            int before = Due.call(plain, after);
-            changes(plain);
-            int due = Due.call(plain, after);
-            changed += due != before ? 1 : 0;
-            for (String ahead : ASKS) {
-                HandsForAWheel x = made();
-                Due.call(x, ahead);
-                DUE.is(after + " behind " + ahead, Due.call(x, after), before);
-                changes(x);
-                DUE.is(after + " behind a change", Due.call(x, after), due);
-                x = made();
-                Due.call(x, ahead);
-                changes(x);
-                DUE.is(after + " behind " + ahead + " and a change", Due.call(x, after), due);
-                Due.call(x, ahead);
-                DUE.is(after + " behind a change and " + ahead, Due.call(x, after), due);
+        for (String yards : new String[] {"yards 9", "yards 7", "yards 4", "yards 1"}) {
+            int changed = 0;
+            for (String after : ASKS) {
+                HandsForAWheel plain = made();
+                int before = Due.call(plain, after);
+                changes(plain, yards);
+                int due = Due.call(plain, after);
+                changed += due != before ? 1 : 0;
+                for (String ahead : ASKS) {
+                    asks(ahead, after, before, yards, due);
+                }
             }
+            DUE.is("most answer otherwise after " + yards, changed > ASKS.length / 2 ? 1 : 0, 1);
         }
-        DUE.is("most answer otherwise after the change", changed > ASKS.length / 2 ? 1 : 0, 1);
         DUE.end();
+    }
+
+    private static void asks(String ahead, String after, int before, String yards, int due) {
+        HandsForAWheel x = made();
+        Due.call(x, ahead);
+        DUE.is(after + " behind " + ahead, Due.call(x, after), before);
+        changes(x, yards);
+        DUE.is(after + " behind a change", Due.call(x, after), due);
+        x = made();
+        Due.call(x, ahead);
+        changes(x, yards);
+        DUE.is(after + " behind " + ahead + " and a change", Due.call(x, after), due);
+        Due.call(x, ahead);
+        DUE.is(after + " behind a change and " + ahead, Due.call(x, after), due);
     }
 
     private static HandsForAWheel made() {
         return Due.of("n07;l1;p4035;p2014;p6057;p1512;y10023;y10313;y10458;y10639;y00144;y00517;");
     }
 
-    private static void changes(HandsForAWheel x) {
+    private static void changes(HandsForAWheel x, String yards) {
+        x.yards(20);
         for (String change : CHANGES) {
             Due.call(x, change);
         }
+        Due.call(x, yards);
     }
 }
