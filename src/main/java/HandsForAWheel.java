@@ -1362,17 +1362,20 @@ public final class HandsForAWheel {
 
         /** All STATEMENTS come into the field, and how many they are; or the FAULT, and the field is worth nothing. */
         int tells(Field field) {
-            int place = firstWithoutSense();
-            if (place != NO_FAULT) {
-                return -1000 - place;
+            int senseless = firstWithoutSense();
+            if (senseless != NO_FAULT) {
+                return -1000 - senseless;
             }
             int statements = 0;
-            // Each step is longer than 0: behind a letter that begins nothing there are -1 digits.
-            for (int from = 0; from < fed; from += digitsBehind(letters.get(from)) + 2) {
-                if (!comesInto(field, from)) {
-                    return -2000 - from;
+            int from = 0;
+            for (int place = 0; place < fed; place++) {
+                if (letters.get(place) == ';') {
+                    if (!comesInto(field, from)) {
+                        return -2000 - from;
+                    }
+                    statements++;
+                    from = place + 1;
                 }
-                statements++;
             }
             return statements;
         }
